@@ -1141,7 +1141,8 @@ public final class LevelEquations {
     private static final class Graph {
         private static final int UNKNOWN = -2, DEGENERATE = -1;
         private final int[] sizes = new int[GREATEST_MODULUS];
-        private final int[][] neighbours = new int[GREATEST_MODULUS][GREATEST_DEGREE];
+        /** GREATEST_DEGREE places for each value. */
+        private final int[] neighbours = new int[GREATEST_MODULUS * GREATEST_DEGREE];
         private final int[] line = new int[WIDTH];
         private final int[] distances = new int[GREATEST_MODULUS];
         private final int[] queue = new int[GREATEST_MODULUS];
@@ -1167,7 +1168,7 @@ public final class LevelEquations {
 
         /** For positions below the size. */
         int neighbourOf(int v, int k) {
-            return neighbours[v][k];
+            return neighbours[GREATEST_DEGREE * v + k];
         }
 
         private void explore(Contents contents, int v) {
@@ -1185,7 +1186,7 @@ public final class LevelEquations {
             for (int w = 0; w < p && top > 0; w++) {
                 for (; top > 0 && lineAt(w, top, p) == 0; top--) {
                     divideLine(w, top, p);
-                    neighbours[v][found] = w;
+                    neighbours[GREATEST_DEGREE * v + found] = w;
                     found++;
                 }
             }
@@ -1229,11 +1230,11 @@ public final class LevelEquations {
             distances[v] = 0;
             queue[0] = v;
             int found = 1;
-            for (int next = 0; next < found; next++) {
+            for (int next = 0; next < found && next < contents.modulus; next++) {
                 int from = queue[next];
                 int size = sizeOf(contents, from);
                 for (int k = 0; k < size; k++) {
-                    int to = neighbours[from][k];
+                    int to = neighbourOf(from, k);
                     if (distances[to] < 0) {
                         distances[to] = distances[from] + 1;
                         queue[found] = to;
