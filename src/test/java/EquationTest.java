@@ -1,3 +1,5 @@
+import java.math.BigInteger;
+
 /** Promises 12 to 20: finding, the equation, and the graph of its zeros. */
 public final class EquationTest {
     private static final int NONE = -1, BAD = -2, STATE = -3, NOT = -5, MISSING = -11;
@@ -6,6 +8,8 @@ public final class EquationTest {
     public static void main(String[] args) {
         findSmall();
         findLevelTwo();
+        findLevelThree();
+        findHigherLevels();
         findErrors();
         equation();
         term();
@@ -87,6 +91,51 @@ public final class EquationTest {
             check.due("term(3, 3)", x.term(3, 3), 0);
             check.due("find(0, 1, 2, 1)", x.find(0, 1, 2, 1), NOT);
             check.due("equation(0)", x.equation(0), 3);
+        }
+    }
+
+    private static void findLevelThree() {
+        check.promise(12, "find, level 3");
+        // x^i y^k with i <= k, as every table has them; the exponents are 10 * i + k.
+        int[] terms = {4, 33, 23, 13, 3, 22, 12, 2, 11, 1, 0, 44, 34, 24, 14};
+        String[] exact = {"1", "-1", "2232", "-1069956", "36864000", "2587918086", "8900222976000", "452984832000000",
+            "-770845966336000000", "1855425871872000000000", "0", "0", "0", "0", "0"};
+        for (int p : new int[] {7, 101, 199}) {
+            LevelEquations x = new LevelEquations();
+            x.prime(p);
+            x.j(0, 30);
+            x.stretch(0, 3, 1);
+            for (int way = 0; way <= 1; way++) {
+                check.due("find(1, 0, 4, " + way + ")", x.find(1, 0, 4, way), 1);
+                for (int t = 0; t < terms.length; t++) {
+                    int due = new BigInteger(exact[t]).mod(BigInteger.valueOf(p)).intValue();
+                    check.due("term of level 3", x.term(terms[t] / 10, terms[t] % 10), due);
+                    check.due("term of level 3", x.term(terms[t] % 10, terms[t] / 10), due);
+                }
+            }
+        }
+    }
+
+    private static void findHigherLevels() {
+        check.promise(12, "find, levels 5 and 7");
+        LevelEquations x = new LevelEquations();
+        for (int level = 5; level <= 7; level += 2) {
+            x.j(0, 80);
+            x.stretch(0, level, 1);
+            check.due("find(0, 1, " + (level + 1) + ", 1)", x.find(0, 1, level + 1, 1), 1);
+            check.due("equation(1)", x.equation(1), 10 * (level + 1));
+            check.due("equation(2)", x.equation(2), 1);
+            check.due("the term x^" + level + " y^" + level, x.term(level, level), 100);
+            check.due("term(" + level + ", " + (level + 1) + ")", x.term(level, level + 1), 0);
+            check.due("vanishes(0, 1)", x.vanishes(0, 1), 1);
+            check.due("vanishes(1, 0)", x.vanishes(1, 0), 1);
+            check.due("find(0, 1, " + level + ", 1)", x.find(0, 1, level, 1), NOT);
+            for (int v = 0; v < 101; v += 9) {
+                for (int w = 0; w < 101; w += 5) {
+                    check.due("at(v, w) and at(w, v)", x.at(v, w), x.at(w, v));
+                }
+            }
+            x = new LevelEquations();
         }
     }
 
@@ -331,6 +380,11 @@ public final class EquationTest {
         check.due("values(0)", x.values(0), MISSING);
         check.due("values(4)", x.values(4), NONE);
         valuesAre(x, "1x1y1", 0, 1, 0, 1);
+        valuesAre(x, "1x1", 0, 1, 100, 0);
+        valuesAre(x, "1x1y1+100y1", 1, 1, 0, 1);
+        // The only value without a neighbor is the lowest one, then the greatest one.
+        valuesAre(x, "1x1y1+1", 2, 0, 1, 1);
+        valuesAre(x, "1x1y1+1y1+100x1", 1, 0, 1, 1);
         valuesAre(x, "0", 0, 101, 0, 0);
         valuesAre(x, "3", 0, 0, 101, 0);
         // (y - x)^2 is counted once for each value, and twice in the number of neighbors.

@@ -178,7 +178,10 @@ public final class ListTest {
         check.due("drop(4)", x.drop(4), 7);
         check.feedAll(x, "3x1");
         check.due("read()", x.read(), 1);
-        check.due("keep(5)", x.keep(5), 1);
+        check.due("keep(4)", x.keep(4), 1);
+        x.prime(13);
+        check.reads(x, "2x1", 1);
+        check.due("keep(5)", x.keep(5), 2);
         check.writes(x, "2x1");
         check.lists(x, 0, 9);
         check.feedAll(x, "4");

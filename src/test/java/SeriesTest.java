@@ -201,6 +201,12 @@ public final class SeriesTest {
         check.holdsSeries(x, 1, 0, 9, 8, 8);
         noneAndMissing(x, 1);
         check.holdsSeries(x, 1, 0, 9, 8, 8);
+        x.j(2, 80);
+        x.j(3, 80);
+        check.due("sum(2, 3, 4)", x.sum(2, 3, 4), 80);
+        for (int e = -1; e < 79; e++) {
+            check.due("twice j at " + e, x.coefficient(4, e), 2 * x.coefficient(3, e) % 101);
+        }
     }
 
     private static void times() {
@@ -337,6 +343,12 @@ public final class SeriesTest {
         check.due("of(1, 2)", x.of(1, 2), NOT);
         check.tells(x, 1, 98, 0, 0, 1);
         check.due("of(1, 2)", x.of(1, 2), 1100);
+        check.tells(x, 1, -99, 1, 0, 1);
+        check.due("of(1, 2)", x.of(1, 2), 901);
+        check.tells(x, 1, -99, 0);
+        check.due("of(1, 2) does not see what was there before", x.of(1, 2), NOT);
+        check.tells(x, 1, -99, 0, 0);
+        check.due("of(1, 2) does not see what was there before", x.of(1, 2), NOT);
         for (int what : new int[] {-1, 3, Integer.MIN_VALUE, Integer.MAX_VALUE}) {
             check.due("of(0, " + what + ")", x.of(0, what), NONE);
             check.due("of(5, " + what + ")", x.of(5, what), NONE);

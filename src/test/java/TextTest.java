@@ -87,6 +87,11 @@ public final class TextTest {
         check.runs(x, "keep 0;over 0 1;over 2 3", 1);
         check.runs(x, "j 0 1;find 0 0 1 1;j 0 9;find 0 0 1 1", 3);
         check.due("NOT leaves the equation", x.equation(1), 0);
+        check.runs(x, "j 1 4;j 2 4;j 3 4", 3);
+        x.prime(5);
+        check.runs(x, "j 0 1", 1);
+        check.due("no earlier command is executed again", x.count(1), 1);
+        check.runs(x, "find 0 0 1 0", 1);
         check.runs(x, "keep 8", 0);
         check.runs(x, "keep 7", 1);
         check.runs(x, "j 0 1;".repeat(15) + "j -0 0;j 5", -200);
@@ -99,6 +104,7 @@ public final class TextTest {
         check.promise(26, "deeds, errors");
         Object[] cases = {
             "", 0, "p", 0, "prim", 0, "primes 7", 0, "prim;", 0, "zz", 0, "Prime 7", 0, " prime 7", 0, ";", 0, "7", 0, "{", 0, "`", 0,
+            "primea 7", 0, "primez 7", 0, "zprime 7", 0, "aprime 7", 0, "prime 7;keepa 0", 8, "prime 7;keepz 0", 8, "prime{ 7", 5, "prime` 7", 5,
             "primeprime 7", 0, "jj 0 1", 0, "b 1", 0,
             "prime", 5, "prime7", 5, "prime;", 5, "primE 7", 0, "primeE", 5, "prime ", 6, "prime  7", 6, "prime x", 6, "prime -", 7,
             "prime --7", 7, "prime +7", 6, "prime - 7", 7, "prime 7 ", 7, "prime 7 ;", 7, "prime 7 8", 7, "prime 7x", 7, "prime 7-", 7,
