@@ -62,7 +62,7 @@ public final class LevelEquations {
         if (!isSeries(series) || !isList(list)) {
             return NONE;
         }
-        if (start < -FARTHEST_START || start > FARTHEST_START) {
+        if (isTooFar(start)) {
             return BAD;
         }
         int n = listLengths[list];
@@ -1017,7 +1017,13 @@ public final class LevelEquations {
             rows = vanishing.length;
             modulus = vanishing.modulus;
             listTerms();
-            fillMatrix(vanishing);
+            clearMatrix();
+            for (int c = 0; c < columns; c++) {
+                addProduct(vanishing, xExponents[c], yExponents[c], c);
+                if (symmetric && xExponents[c] != yExponents[c]) {
+                    addProduct(vanishing, yExponents[c], xExponents[c], c);
+                }
+            }
             return columns - eliminate();
         }
 
@@ -1033,15 +1039,9 @@ public final class LevelEquations {
             }
         }
 
-        private void fillMatrix(Vanishing vanishing) {
+        private void clearMatrix() {
             for (int t = 0; t < rows; t++) {
                 Arrays.fill(matrix[t], 0);
-            }
-            for (int c = 0; c < columns; c++) {
-                addProduct(vanishing, xExponents[c], yExponents[c], c);
-                if (symmetric && xExponents[c] != yExponents[c]) {
-                    addProduct(vanishing, yExponents[c], xExponents[c], c);
-                }
             }
         }
 
