@@ -24,13 +24,13 @@ public final class EquationTest {
     }
 
     /** Sets series 0 to q^start with a length. */
-    private static void monomial(LevelEquations x, int start, int n) {
+    private static void monomial(CountedEquations x, int start, int n) {
         int[] numbers = new int[n];
         numbers[0] = 1;
         check.tells(x, 0, start, numbers);
     }
 
-    private static void found(LevelEquations x, int d, int way, int free, String written) {
+    private static void found(CountedEquations x, int d, int way, int free, String written) {
         check.due("find(0, 0, " + d + ", " + way + ")", x.find(0, 0, d, way), free);
         check.due("equation(0)", x.equation(0), d);
         check.writes(x, written);
@@ -38,7 +38,7 @@ public final class EquationTest {
 
     private static void findSmall() {
         check.promise(12, "find");
-        LevelEquations x = new LevelEquations();
+        CountedEquations x = new CountedEquations();
         // With X = Y = q and the length n, the coefficients of 1, q, .., q^(n-1) count.
         monomial(x, 1, 3);
         found(x, 1, 0, 1, "1x1+100y1");
@@ -73,7 +73,7 @@ public final class EquationTest {
 
     private static void findLevelTwo() {
         check.promise(12, "find, level 2");
-        LevelEquations x = new LevelEquations();
+        CountedEquations x = new CountedEquations();
         for (int p : new int[] {5, 7, 101, 199}) {
             x.prime(p);
             check.due("j(0, 20)", x.j(0, 20), 20);
@@ -101,7 +101,7 @@ public final class EquationTest {
         String[] exact = {"1", "-1", "2232", "-1069956", "36864000", "2587918086", "8900222976000", "452984832000000",
             "-770845966336000000", "1855425871872000000000", "0", "0", "0", "0", "0"};
         for (int p : new int[] {7, 101, 199}) {
-            LevelEquations x = new LevelEquations();
+            CountedEquations x = new CountedEquations();
             x.prime(p);
             x.j(0, 30);
             x.stretch(0, 3, 1);
@@ -118,7 +118,7 @@ public final class EquationTest {
 
     private static void findHigherLevels() {
         check.promise(12, "find, levels 5 and 7");
-        LevelEquations x = new LevelEquations();
+        CountedEquations x = new CountedEquations();
         for (int level = 5; level <= 7; level += 2) {
             x.j(0, 80);
             x.stretch(0, level, 1);
@@ -131,17 +131,17 @@ public final class EquationTest {
             check.due("vanishes(1, 0)", x.vanishes(1, 0), 1);
             check.due("find(0, 1, " + level + ", 1)", x.find(0, 1, level, 1), NOT);
             for (int v = 0; v < 101; v += 9) {
-                for (int w = 0; w < 101; w += 5) {
+                for (int w = 0; w < 101; w += 6) {
                     check.due("at(v, w) and at(w, v)", x.at(v, w), x.at(w, v));
                 }
             }
-            x = new LevelEquations();
+            x = new CountedEquations();
         }
     }
 
     private static void findErrors() {
         check.promise(12, "find, errors");
-        LevelEquations x = new LevelEquations();
+        CountedEquations x = new CountedEquations();
         monomial(x, 1, 1);
         for (int s : new int[] {-1, 6, Integer.MIN_VALUE, Integer.MAX_VALUE}) {
             check.due("find(s, 0, 0, 2)", x.find(s, 0, 0, 2), NONE);
@@ -160,7 +160,7 @@ public final class EquationTest {
 
     private static void equation() {
         check.promise(13, "equation");
-        LevelEquations x = new LevelEquations();
+        CountedEquations x = new CountedEquations();
         for (int what = 0; what < 4; what++) {
             check.due("equation(" + what + ")", x.equation(what), MISSING);
         }
@@ -178,11 +178,11 @@ public final class EquationTest {
         equationIs(x, 7, 7, 0, 2);
         for (int what : new int[] {-1, 4, Integer.MIN_VALUE, Integer.MAX_VALUE}) {
             check.due("equation(" + what + ")", x.equation(what), NONE);
-            check.due("equation(" + what + ") of a new object", new LevelEquations().equation(what), NONE);
+            check.due("equation(" + what + ") of a new object", new CountedEquations().equation(what), NONE);
         }
     }
 
-    private static void equationIs(LevelEquations x, int degree, int leading, int symmetric, int nonzero) {
+    private static void equationIs(CountedEquations x, int degree, int leading, int symmetric, int nonzero) {
         check.due("equation(0)", x.equation(0), degree);
         check.due("equation(1)", x.equation(1), leading);
         check.due("equation(2)", x.equation(2), symmetric);
@@ -191,7 +191,7 @@ public final class EquationTest {
 
     private static void term() {
         check.promise(14, "term");
-        LevelEquations x = new LevelEquations();
+        CountedEquations x = new CountedEquations();
         check.due("term(8, 8)", x.term(8, 8), MISSING);
         check.reads(x, "1+2y1+3x1+4x1y1+5x2y1", 2);
         check.due("term(0, 0)", x.term(0, 0), 1);
@@ -206,8 +206,8 @@ public final class EquationTest {
         for (int i : new int[] {-1, 9, Integer.MIN_VALUE, Integer.MAX_VALUE}) {
             check.due("term(" + i + ", 0)", x.term(i, 0), NONE);
             check.due("term(0, " + i + ")", x.term(0, i), NONE);
-            check.due("term(" + i + ", 0) of a new object", new LevelEquations().term(i, 0), NONE);
-            check.due("term(0, " + i + ") of a new object", new LevelEquations().term(0, i), NONE);
+            check.due("term(" + i + ", 0) of a new object", new CountedEquations().term(i, 0), NONE);
+            check.due("term(0, " + i + ") of a new object", new CountedEquations().term(0, i), NONE);
         }
         check.reads(x, "7x8y8", 8);
         check.due("term(8, 8)", x.term(8, 8), 7);
@@ -215,7 +215,7 @@ public final class EquationTest {
 
     private static void at() {
         check.promise(15, "at");
-        LevelEquations x = new LevelEquations();
+        CountedEquations x = new CountedEquations();
         check.due("at(100, 0)", x.at(100, 0), MISSING);
         check.due("at(101, 0)", x.at(101, 0), BAD);
         check.reads(x, "3x2y1+5y3+100", 3);
@@ -236,7 +236,7 @@ public final class EquationTest {
 
     private static void vanishes() {
         check.promise(16, "vanishes");
-        LevelEquations x = new LevelEquations();
+        CountedEquations x = new CountedEquations();
         check.due("vanishes(0, 0)", x.vanishes(0, 0), MISSING);
         check.due("vanishes(0, 6)", x.vanishes(0, 6), NONE);
         check.due("vanishes(-1, 0)", x.vanishes(-1, 0), NONE);
@@ -278,7 +278,7 @@ public final class EquationTest {
 
     private static void neighbour() {
         check.promise(17, "neighbour");
-        LevelEquations x = new LevelEquations();
+        CountedEquations x = new CountedEquations();
         check.due("neighbour(0, -1)", x.neighbour(0, -1), MISSING);
         check.due("neighbour(0, -2)", x.neighbour(0, -2), BAD);
         check.due("neighbour(101, 0)", x.neighbour(101, 0), BAD);
@@ -313,7 +313,7 @@ public final class EquationTest {
         check.due("neighbour(0, MAX)", x.neighbour(0, Integer.MAX_VALUE), NOT);
     }
 
-    private static void neighboursAre(LevelEquations x, int v, int... all) {
+    private static void neighboursAre(CountedEquations x, int v, int... all) {
         check.due("neighbour(" + v + ", -1)", x.neighbour(v, -1), all.length);
         for (int k = 0; k < all.length; k++) {
             check.due("neighbour(" + v + ", " + k + ")", x.neighbour(v, k), all[k]);
@@ -326,7 +326,7 @@ public final class EquationTest {
 
     private static void far() {
         check.promise(18, "far");
-        LevelEquations x = new LevelEquations();
+        CountedEquations x = new CountedEquations();
         check.due("far(0, 0)", x.far(0, 0), MISSING);
         check.due("far(0, 101)", x.far(0, 101), BAD);
         check.reads(x, "1y1+100x1+100", 1);
@@ -352,7 +352,7 @@ public final class EquationTest {
 
     private static void reach() {
         check.promise(19, "reach");
-        LevelEquations x = new LevelEquations();
+        CountedEquations x = new CountedEquations();
         check.due("reach(0)", x.reach(0), MISSING);
         check.due("reach(101)", x.reach(101), BAD);
         check.reads(x, NEXT_OR_DOUBLE, 2);
@@ -376,7 +376,7 @@ public final class EquationTest {
 
     private static void values() {
         check.promise(20, "values");
-        LevelEquations x = new LevelEquations();
+        CountedEquations x = new CountedEquations();
         check.due("values(0)", x.values(0), MISSING);
         check.due("values(4)", x.values(4), NONE);
         valuesAre(x, "1x1y1", 0, 1, 0, 1);
@@ -400,7 +400,7 @@ public final class EquationTest {
         valuesAre(x, "1y2+198x1", 2, 0, 99, 2);
     }
 
-    private static void valuesAre(LevelEquations x, String text, int own, int degenerate, int lonely, int most) {
+    private static void valuesAre(CountedEquations x, String text, int own, int degenerate, int lonely, int most) {
         check.feedAll(x, text);
         x.read();
         check.due("values(0) of " + text, x.values(0), own);
@@ -412,7 +412,7 @@ public final class EquationTest {
     /** What was found about one equation must not be answered for the next one. */
     private static void graphFollowsTheEquation() {
         check.part("promises 17 to 20, after a change of the equation");
-        LevelEquations x = new LevelEquations();
+        CountedEquations x = new CountedEquations();
         check.reads(x, "1y1+100x1", 1);
         check.due("neighbour(3, 0)", x.neighbour(3, 0), 3);
         check.due("image()", x.image(), 0);

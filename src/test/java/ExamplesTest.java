@@ -11,7 +11,7 @@ public final class ExamplesTest {
 
     private static void anEquationAndItsStretchedOne() {
         check.part("an equation and its stretched one");
-        LevelEquations x = new LevelEquations();
+        CountedEquations x = new CountedEquations();
         check.due("j(0, 4)", x.j(0, 4), 4);
         check.due("of(0, 0)", x.of(0, 0), 999);
         check.due("coefficient(0, -1)", x.coefficient(0, -1), 1);
@@ -24,7 +24,7 @@ public final class ExamplesTest {
 
     private static void twoEquationsReadFromAText() {
         check.part("two equations read from a text");
-        LevelEquations x = new LevelEquations();
+        CountedEquations x = new CountedEquations();
         int[] letters = {49, 120, 49, 43, 50, 121, 50};
         for (int t = 0; t < letters.length; t++) {
             check.due("feed(" + letters[t] + ")", x.feed(letters[t]), t + 1);
@@ -38,7 +38,7 @@ public final class ExamplesTest {
 
     private static void aTextWithAnUnknownVariable() {
         check.part("a text with an unknown variable");
-        LevelEquations x = new LevelEquations();
+        CountedEquations x = new CountedEquations();
         check.due("feed(49)", x.feed(49), 1);
         check.due("feed(122)", x.feed(122), 2);
         check.due("read()", x.read(), -101);

@@ -15,7 +15,7 @@ public final class KeptTest {
         check.end();
     }
 
-    private static void keepConstant(LevelEquations x, int place, int p, int constant, int count) {
+    private static void keepConstant(CountedEquations x, int place, int p, int constant, int count) {
         x.prime(p);
         check.reads(x, constant + "+1x1", 1);
         check.due("keep(" + place + ")", x.keep(place), count);
@@ -23,7 +23,7 @@ public final class KeptTest {
 
     private static void keep() {
         check.promise(21, "keep");
-        LevelEquations x = new LevelEquations();
+        CountedEquations x = new CountedEquations();
         check.due("keep(0)", x.keep(0), MISSING);
         for (int k : NO_PLACES) {
             check.due("keep(" + k + ")", x.keep(k), NONE);
@@ -56,7 +56,7 @@ public final class KeptTest {
 
     private static void drop() {
         check.promise(22, "drop");
-        LevelEquations x = new LevelEquations();
+        CountedEquations x = new CountedEquations();
         keepConstant(x, 3, 13, 3, 1);
         keepConstant(x, 4, 17, 3, 2);
         for (int k : NO_PLACES) {
@@ -75,7 +75,7 @@ public final class KeptTest {
 
     private static void joined() {
         check.promise(23, "joined");
-        LevelEquations x = new LevelEquations();
+        CountedEquations x = new CountedEquations();
         check.due("joined(0, 0)", x.joined(0, 0), NO);
         keepConstant(x, 2, 5, 2, 1);
         check.due("joined(0, 0)", x.joined(0, 0), 2);
@@ -109,8 +109,8 @@ public final class KeptTest {
     }
 
     /** A new object with both places kept, since an object answers for 512 calls only. */
-    private static LevelEquations renewed() {
-        LevelEquations y = new LevelEquations();
+    private static CountedEquations renewed() {
+        CountedEquations y = new CountedEquations();
         keepConstant(y, 2, 5, 1, 1);
         keepConstant(y, 1, 7, 1, 2);
         return y;
@@ -123,7 +123,7 @@ public final class KeptTest {
             m *= p;
         }
         for (long c : new long[] {0, 1, -1, 157464000000000L, -157464000000000L, m / 2, m / 2 - 1, -(m / 2), 123456789012345678L}) {
-            LevelEquations x = new LevelEquations();
+            CountedEquations x = new CountedEquations();
             for (int k = 0; k < 8; k++) {
                 keepConstant(x, 7 - k, GREATEST[k], (int) Math.floorMod(c, (long) GREATEST[k]), k + 1);
             }
@@ -135,7 +135,7 @@ public final class KeptTest {
 
     private static void whole() {
         check.promise(24, "whole");
-        LevelEquations x = new LevelEquations();
+        CountedEquations x = new CountedEquations();
         check.due("whole()", x.whole(), NO);
         keepConstant(x, 0, 199, 3, 1);
         check.due("whole()", x.whole(), 199);

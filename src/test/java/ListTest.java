@@ -19,7 +19,7 @@ public final class ListTest {
 
     private static void list() {
         check.promise(30, "list");
-        LevelEquations x = new LevelEquations();
+        CountedEquations x = new CountedEquations();
         check.due("list(0, 80)", x.list(0, 80), 1);
         check.due("get(0, 79)", x.get(0, 79), 0);
         check.due("get(0, 80)", x.get(0, 80), NO);
@@ -49,7 +49,7 @@ public final class ListTest {
 
     private static void put() {
         check.promise(31, "put");
-        LevelEquations x = new LevelEquations();
+        CountedEquations x = new CountedEquations();
         check.due("put(1, 0, 5)", x.put(1, 0, 5), MISSING);
         check.due("put(1, -1, 5)", x.put(1, -1, 5), MISSING);
         check.due("list(1, 3)", x.list(1, 3), 1);
@@ -71,7 +71,7 @@ public final class ListTest {
 
     private static void get() {
         check.promise(32, "get");
-        LevelEquations x = new LevelEquations();
+        CountedEquations x = new CountedEquations();
         check.due("get(0, 0)", x.get(0, 0), NO);
         check.due("get(0, -1)", x.get(0, -1), NO);
         check.lists(x, 0, 4, 5);
@@ -90,7 +90,7 @@ public final class ListTest {
 
     private static void lay() {
         check.promise(33, "lay");
-        LevelEquations x = new LevelEquations();
+        CountedEquations x = new CountedEquations();
         check.tells(x, 0, -5, 1, -2, 103);
         check.due("lay(0, 0)", x.lay(0, 0), MISSING);
         check.lists(x, 0, 70, 71, 72, 73);
@@ -116,7 +116,7 @@ public final class ListTest {
 
     private static void judge() {
         check.promise(34, "judge");
-        LevelEquations x = new LevelEquations();
+        CountedEquations x = new CountedEquations();
         check.tells(x, 0, -5, 1, -2, 103);
         check.due("judge(0, 0)", x.judge(0, 0), MISSING);
         check.lists(x, 0, 1, 99, 2);
@@ -144,7 +144,7 @@ public final class ListTest {
 
     private static void image() {
         check.promise(35, "image");
-        LevelEquations x = new LevelEquations();
+        CountedEquations x = new CountedEquations();
         check.due("image()", x.image(), 0);
         x.j(0, 3);
         check.due("image()", x.image(), 1);
@@ -161,7 +161,7 @@ public final class ListTest {
 
     private static void back() {
         check.promise(36, "back");
-        LevelEquations x = new LevelEquations();
+        CountedEquations x = new CountedEquations();
         check.due("back()", x.back(), STATE);
         x.prime(7);
         check.tells(x, 2, -3, 1, 2, 3);
@@ -207,7 +207,7 @@ public final class ListTest {
             check.lists(x, 0, 9);
             x.prime(13);
         }
-        LevelEquations y = new LevelEquations();
+        CountedEquations y = new CountedEquations();
         check.due("image()", y.image(), 0);
         y.j(0, 1);
         check.reads(y, "1", 1);
@@ -220,7 +220,7 @@ public final class ListTest {
 
     private static void count() {
         check.promise(37, "count");
-        LevelEquations x = new LevelEquations();
+        CountedEquations x = new CountedEquations();
         x.prime(199);
         for (int s = 0; s < 6; s++) {
             check.due("count(1)", x.count(1), s);

@@ -1,6 +1,8 @@
 /** Long runs of calls, each answered by the program and by the model; the same runs each time. */
 public final class RandomRunsTest {
-    private static final int RUNS = 600, CALLS = 512;
+    private static final int RUNS = 2400;
+    /** More calls than one step makes, and the last look at the counts and terms. */
+    private static final int STEP = 100, LAST_LOOK = 30;
     private static final int[] PRIMES = {5, 7, 11, 13, 17, 19, 23, 31, 53, 97, 101, 103, 127, 149, 167, 173, 179, 181, 191, 193, 197, 199};
     private static final int[] WILD = {Integer.MIN_VALUE, Integer.MIN_VALUE + 1, -1000, -100, -99, -14, -2, -1, 0, 1, 2, 3, 4, 5, 6, 7, 8, 9,
         10, 79, 80, 81, 99, 100, 101, 127, 128, 198, 199, 200, 1000, 1 << 30, Integer.MAX_VALUE - 1, Integer.MAX_VALUE};
@@ -9,7 +11,7 @@ public final class RandomRunsTest {
 
     private final Check check = new Check("RandomRunsTest");
     private long seed;
-    private LevelEquations x;
+    private CountedEquations x;
     private Model m;
     /** How wild the arguments of this run are, in percent. */
     private int wild;
@@ -146,6 +148,11 @@ public final class RandomRunsTest {
         }
     }
 
+    /** Goes from -1 to n, by leaps in the middle of what is long, to save calls. */
+    private int next(int t, int n) {
+        return t < 8 || t == n ? t + 1 : Math.min(n, t + 1 + below(12));
+    }
+
     private void compareSeries() {
         int s = series();
         for (int what = -1; what <= 3; what++) {
@@ -153,7 +160,7 @@ public final class RandomRunsTest {
         }
         int start = m.of(s, 0) - 1000;
         int n = m.of(s, 1);
-        for (int t = -1; t <= n && n > 0; t++) {
+        for (int t = -1; t <= n && n > 0; t = next(t, n)) {
             check.due("coefficient", x.coefficient(s, start + t), m.coefficient(s, start + t));
         }
         int e = WILD[below(WILD.length)];
@@ -191,7 +198,8 @@ public final class RandomRunsTest {
     }
 
     private void comparePaper() {
-        for (int t = -1; t <= m.count(4); t++) {
+        int n = m.count(4);
+        for (int t = -1; t <= n && x.left() > LAST_LOOK; t = next(t, n)) {
             check.due("paper(" + t + ")", x.paper(t), m.paper(t));
         }
     }
@@ -260,12 +268,12 @@ public final class RandomRunsTest {
     }
 
     private void run(int number) {
-        check.part("run " + number);
+        check.place("run " + number);
         seed = 1000L + 77L * number;
         wild = new int[] {0, 2, 30}[number % 3];
         longest = new int[] {80, 6, 20, 3}[number % 4];
         widest = new int[] {2, 8, 3, 1, 5}[number % 5];
-        x = new LevelEquations();
+        x = new CountedEquations();
         m = new Model();
         int p = PRIMES[below(PRIMES.length)];
         check.due("prime", x.prime(p), m.prime(p));
@@ -273,19 +281,20 @@ public final class RandomRunsTest {
             int n = 1 + below(longest);
             check.due("j", x.j(s, n), m.j(s, n));
         }
-        for (int c = 0; c < CALLS; c++) {
+        while (x.left() >= STEP + LAST_LOOK) {
             call();
-        }
-        for (int s = 0; s < 6; s++) {
-            compareSeries();
         }
         compareTerms();
         compareCounts();
+        while (x.left() >= 40) {
+            compareSeries();
+        }
     }
 
     public static void main(String[] args) {
         RandomRunsTest test = new RandomRunsTest();
         int runs = args.length > 0 ? Integer.parseInt(args[0]) : RUNS;
+        test.check.part("promises 1 to 37, " + runs + " long runs answered by the class and by the model");
         for (int number = 0; number < runs; number++) {
             test.run(number);
         }

@@ -18,7 +18,7 @@ public final class TextTest {
 
     private static void feed() {
         check.promise(25, "feed");
-        LevelEquations x = new LevelEquations();
+        CountedEquations x = new CountedEquations();
         for (int letter : new int[] {0, 128, -1, Integer.MIN_VALUE, Integer.MAX_VALUE}) {
             check.due("feed(" + letter + ")", x.feed(letter), BAD);
         }
@@ -39,7 +39,7 @@ public final class TextTest {
     /** Each command does what the method of its name does, with its numbers in their order. */
     private static void deedsCommands() {
         check.promise(26, "deeds, commands");
-        LevelEquations x = new LevelEquations();
+        CountedEquations x = new CountedEquations();
         check.runs(x, "prime 103", 1);
         check.due("count(0)", x.count(0), 103);
         check.runs(x, "j 4 3", 1);
@@ -59,7 +59,7 @@ public final class TextTest {
         check.runs(x, "find 0 5 2 0", 1);
         check.due("equation(0)", x.equation(0), 2);
         check.due("vanishes(0, 5)", x.vanishes(0, 5), 1);
-        LevelEquations y = new LevelEquations();
+        CountedEquations y = new CountedEquations();
         y.prime(103);
         check.tells(y, 0, 1, 1, 2, 3);
         y.power(0, 2, 5);
@@ -77,7 +77,7 @@ public final class TextTest {
 
     private static void deedsCounts() {
         check.promise(26, "deeds, counts");
-        LevelEquations x = new LevelEquations();
+        CountedEquations x = new CountedEquations();
         check.runs(x, "prime 4", 0);
         check.runs(x, "prime 4;prime 7;prime 999;prime -7;prime 005", 2);
         check.due("count(0)", x.count(0), 5);
@@ -94,6 +94,7 @@ public final class TextTest {
         check.runs(x, "find 0 0 1 0", 1);
         check.runs(x, "keep 8", 0);
         check.runs(x, "keep 7", 1);
+        x = new CountedEquations();
         check.runs(x, "j 0 1;".repeat(15) + "j -0 0;j 5", -200);
         check.runs(x, "j 0 1;".repeat(15) + "j -00 -081", 15);
         check.runs(x, "j 0 1;".repeat(15) + "j 05 7", 16);
@@ -116,7 +117,7 @@ public final class TextTest {
             "prime 7:j 0 1", 7, "prime 7/", 7, "prime :", 6, "prime /", 6,
         };
         for (int c = 0; c < cases.length; c += 2) {
-            LevelEquations x = new LevelEquations();
+            CountedEquations x = new CountedEquations();
             check.runs(x, (String) cases[c], -100 - (Integer) cases[c + 1]);
             check.due("no command of '" + cases[c] + "' is executed", x.count(0), 101);
             check.due("count(1)", x.count(1), 0);
@@ -125,7 +126,7 @@ public final class TextTest {
 
     private static void deedsLong() {
         check.promise(26, "deeds, a full tape");
-        LevelEquations x = new LevelEquations();
+        CountedEquations x = new CountedEquations();
         // 16 commands of 6 bytes, then 4 bytes of one that is not ended.
         check.runs(x, "j 0 1;".repeat(16) + "j 0 ", -200);
         check.runs(x, "j 0 1;".repeat(15) + "j 0 0012;x", -100 - 97);
@@ -135,7 +136,7 @@ public final class TextTest {
 
     private static void read() {
         check.promise(27, "read");
-        LevelEquations x = new LevelEquations();
+        CountedEquations x = new CountedEquations();
         check.reads(x, "5", 1);
         check.writes(x, "5");
         check.reads(x, "005x1y2", 2);
@@ -164,7 +165,7 @@ public final class TextTest {
 
     private static void readErrors() {
         check.promise(27, "read, errors");
-        LevelEquations x = new LevelEquations();
+        CountedEquations x = new CountedEquations();
         check.reads(x, "8x2y1", 2);
         Object[] cases = {
             "", 0, "x1", 0, "+1", 0, "-1", 0, " 1", 0, "z", 0, "1z", 1, "1 ", 1, "1X1", 1, "1x", 2, "1x0", 2, "1x9", 2, "1xx1", 2, "1xy1", 2,
@@ -179,11 +180,11 @@ public final class TextTest {
             if (c % 20 == 0) {
                 check.due("the equation stays", x.equation(1), 21);
                 check.due("the equation stays", x.equation(3), 1);
-                x = new LevelEquations();
+                x = new CountedEquations();
                 check.reads(x, "8x2y1", 2);
             }
         }
-        x = new LevelEquations();
+        x = new CountedEquations();
         check.feedAll(x, "1+".repeat(50));
         check.due("read() of a full tape", x.read(), -200);
         check.due("equation(0)", x.equation(0), MISSING);
@@ -191,7 +192,7 @@ public final class TextTest {
 
     private static void write() {
         check.promise(28, "write");
-        LevelEquations x = new LevelEquations();
+        CountedEquations x = new CountedEquations();
         check.due("write()", x.write(), MISSING);
         x.prime(199);
         check.due("write()", x.write(), MISSING);
@@ -212,7 +213,7 @@ public final class TextTest {
 
     /** All 81 terms of degree 8, by (1 + q)-like series whose lowest polynomial is full of terms. */
     private static void longest() {
-        LevelEquations x = new LevelEquations();
+        CountedEquations x = new CountedEquations();
         x.prime(199);
         check.due("list(0, 80)", x.list(0, 80), 1);
         int number = 1;
@@ -247,7 +248,7 @@ public final class TextTest {
 
     private static void paper() {
         check.promise(29, "paper");
-        LevelEquations x = new LevelEquations();
+        CountedEquations x = new CountedEquations();
         check.due("paper(0)", x.paper(0), NONE);
         check.reads(x, "12x3y4+56", 4);
         check.due("paper(0)", x.paper(0), NONE);
