@@ -7,7 +7,7 @@ import java.util.function.Consumer;
  */
 final class Check {
     /** Far more than a test needs; a call that doesn't end must not keep .ci/run from telling so. */
-    private static final long MOST_MILLISECONDS = 300_000;
+    private static final long MOST_MILLISECONDS = 120_000;
     static final int LEAST_INT = Integer.MIN_VALUE, GREATEST_INT = Integer.MAX_VALUE;
 
     /** A call with one argument that varies. */
