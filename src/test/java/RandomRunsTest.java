@@ -1,6 +1,6 @@
 /** Long runs of calls, each answered by the program and by the model; the same runs each time. */
 public final class RandomRunsTest {
-    private static final int RUNS = 2400;
+    private static final int RUNS = 2400, PAIRS = 120;
     /** More calls than one step makes, and the last look at the counts and terms. */
     private static final int STEP = 100, LAST_LOOK = 30;
     private static final int[] PRIMES = {5, 7, 11, 13, 17, 19, 23, 31, 53, 97, 101, 103, 127, 149, 167, 173, 179, 181, 191, 193, 197, 199};
@@ -13,6 +13,9 @@ public final class RandomRunsTest {
     private long seed;
     private CountedEquations x;
     private Model m;
+    /** The object that waits while calls are made on x, with its own model. */
+    private CountedEquations otherX;
+    private Model otherM;
     /** How wild the arguments of this run are, in percent. */
     private int wild;
     private int longest;
@@ -267,12 +270,14 @@ public final class RandomRunsTest {
         }
     }
 
-    private void run(int number) {
-        check.place("run " + number);
+    private void prepare(int number) {
         seed = 1000L + 77L * number;
         wild = new int[] {0, 2, 30}[number % 3];
         longest = new int[] {80, 6, 20, 3}[number % 4];
         widest = new int[] {2, 8, 3, 1, 5}[number % 5];
+    }
+
+    private void begin() {
         x = new CountedEquations();
         m = new Model();
         int p = PRIMES[below(PRIMES.length)];
@@ -281,14 +286,49 @@ public final class RandomRunsTest {
             int n = 1 + below(longest);
             check.due("j", x.j(s, n), m.j(s, n));
         }
-        while (x.left() >= STEP + LAST_LOOK) {
-            call();
-        }
+    }
+
+    private void compareAtTheEnd() {
         compareTerms();
         compareCounts();
         while (x.left() >= 40) {
             compareSeries();
         }
+    }
+
+    private void run(int number) {
+        check.place("run " + number);
+        prepare(number);
+        begin();
+        while (x.left() >= STEP + LAST_LOOK) {
+            call();
+        }
+        compareAtTheEnd();
+    }
+
+    private void swap() {
+        CountedEquations waiting = otherX;
+        Model waitingM = otherM;
+        otherX = x;
+        otherM = m;
+        x = waiting;
+        m = waitingM;
+    }
+
+    /** The calls on one of the objects must not show in the other one. */
+    private void runTwo(int number) {
+        check.place("pair " + number);
+        prepare(number);
+        begin();
+        swap();
+        begin();
+        while (x.left() >= STEP + LAST_LOOK) {
+            call();
+            swap();
+        }
+        compareAtTheEnd();
+        swap();
+        compareAtTheEnd();
     }
 
     public static void main(String[] args) {
@@ -297,6 +337,10 @@ public final class RandomRunsTest {
         test.check.part("promises 1 to 37, " + runs + " long runs answered by the class and by the model");
         for (int number = 0; number < runs; number++) {
             test.run(number);
+        }
+        test.check.part("promise 1: each object is a new one: " + PAIRS + " pairs of objects with their calls in alternation");
+        for (int number = 0; number < PAIRS; number++) {
+            test.runTwo(number);
         }
         test.check.end();
     }
